@@ -1,3 +1,4 @@
+/** All rows are made with the board and used again, because all calls of a run share one room for what they make. */
 public final class JobBoard {
     public static final int NONE = -1;
 
@@ -517,10 +518,10 @@ public final class JobBoard {
         boolean onBoard;
         int number;
         int leaseEnd;
-        int putSession = NONE;
-        int putDeal = NONE;
-        int takenSession = NONE;
-        int takenDeal = NONE;
+        int putSession;
+        int putDeal;
+        int takenSession;
+        int takenDeal;
         final Fields fields = new Fields();
 
         void begin(int number, Fields draft, int leaseEnd) {
