@@ -725,8 +725,9 @@ public final class JobBoard {
             if (v < 0 || v >= VARIABLES) {
                 return false;
             }
-            if (!isBound(v)) {
-                bound |= 1 << v;
+            int bit = 1 << v;
+            if ((bound & bit) == 0) {
+                bound |= bit;
                 kinds[v] = kind;
                 values[v] = value;
             }
@@ -820,18 +821,13 @@ public final class JobBoard {
                 case VARIABLE:
                     return finding.bindOrCompare((int) a, kind, value);
                 case FOUND_BEFORE:
-                    return kind == REFERENCE && isNumberFound((int) a, value, finding);
+                    // NONE is no tuple's number, but a reference may well have it as its value.
+                    return kind == REFERENCE && value != NONE && value == finding.numberFor((int) a);
                 case HAS_BIT:
                     return kind == a && value >= 0 && value <= 63 && (b >>> value & 1) == 1;
                 default:
                     return true;
             }
-        }
-
-        /** NONE is no tuple's number, but a reference may well have it as its value. */
-        private static boolean isNumberFound(int p, long value, Finding finding) {
-            int number = finding.numberFor(p);
-            return number != NONE && value == number;
         }
     }
 

@@ -52,6 +52,10 @@ final class Calls {
         }
     }
 
+    int highestNumber() {
+        return highestNumber;
+    }
+
     /** All that can be seen of a board by calls that change nothing. */
     String snapshot() {
         StringBuilder text = new StringBuilder(invoke(methods.get("now")));

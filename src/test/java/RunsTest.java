@@ -3,20 +3,16 @@ import java.nio.file.Files;
 import java.nio.file.Path;
 import java.util.ArrayList;
 import java.util.List;
-import java.util.regex.Matcher;
-import java.util.regex.Pattern;
 import java.util.stream.Stream;
 
 /** Plays the runs of calls written down in src/test/runs (README.md tells how they are written). */
 public final class RunsTest {
     private static final Path RUNS = Path.of("src/test/runs");
     private static final int PROMISES = 21;
-    private static final Pattern CALL =
-            Pattern.compile("(\\w+)\\(([^)]*)\\) (?:= (\\S+)(?: \\.\\. (\\S+))?|throws (\\w+))");
+    private static final int MOST_CALLS = 512;
 
-    private Calls board;
-    private String place;
     private int wrong;
+    private int runs;
     private int calls;
 
     public static void main(String[] args) throws IOException {
@@ -26,10 +22,12 @@ public final class RunsTest {
             listed.filter(f -> f.toString().endsWith(".txt")).sorted().forEach(files::add);
         }
         for (Path file : files) {
-            test.play(file);
+            for (Run run : Run.readAll(file)) {
+                test.play(run);
+            }
         }
         test.requireOneFileForEachPromise(files);
-        System.out.println(test.calls + " calls, " + test.wrong + " answers are not as due");
+        System.out.println(test.runs + " runs, " + test.calls + " calls, " + test.wrong + " answers are not as due");
         if (test.wrong != 0) {
             System.exit(1);
         }
@@ -39,64 +37,63 @@ public final class RunsTest {
         for (int p = 1; p <= PROMISES; p++) {
             String start = String.format("%02d-", p);
             if (files.stream().noneMatch(f -> f.getFileName().toString().startsWith(start))) {
-                place = RUNS.toString();
-                complain("no run for promise " + p);
+                complain(RUNS + ": no run for promise " + p);
             }
         }
     }
 
-    private void play(Path file) throws IOException {
-        board = null;
-        List<String> lines = Files.readAllLines(file);
-        for (int i = 0; i < lines.size(); i++) {
-            place = file.getFileName() + ":" + (i + 1);
-            String line = lines.get(i).replaceFirst("#.*", "").strip();
-            if (!line.isEmpty()) {
-                playLine(line);
+    private void play(Run run) {
+        runs++;
+        calls += run.steps.size();
+        if (run.title.isEmpty()) {
+            complain(run.steps.get(0), "a run that does not say what it tests");
+        }
+        if (run.steps.size() > MOST_CALLS) {
+            complain(run.steps.get(0), run.title + ": more calls than the document speaks of");
+        }
+        Calls board = run.newBoard();
+        for (Run.Step step : run.steps) {
+            String got = board.call(step.name(), step.arguments());
+            if (!got.equals(step.due())) {
+                complain(step, run.title + ": " + step + " answered " + got + ", due is " + step.due());
             }
         }
+        requireThatRefusedCallsChangeNothing(run);
     }
 
-    private void playLine(String line) {
-        if (line.startsWith("JobBoard(")) {
-            board = new Calls(new JobBoard(Integer.parseInt(line.substring(9, line.length() - 1))));
-            return;
-        }
-        Matcher m = CALL.matcher(line);
-        if (!m.matches() || board == null) {
-            complain("not a call: " + line);
-            return;
-        }
-        String[] arguments = m.group(2).isBlank() ? new String[0] : m.group(2).split(",\\s*");
-        if (m.group(5) != null) {
-            expectThrow(m.group(1), arguments, m.group(5));
-        } else if (m.group(4) == null) {
-            expect(m.group(1), arguments, m.group(3));
-        } else {
-            for (long due = Long.parseLong(m.group(3)); due <= Long.parseLong(m.group(4)); due++) {
-                expect(m.group(1), arguments, Long.toString(due));
+    private void requireThatRefusedCallsChangeNothing(Run run) {
+        String before = null;
+        for (int i = 0; i < run.steps.size(); i++) {
+            Run.Step step = run.steps.get(i);
+            if (!step.isRefused()) {
+                before = null;
+                continue;
             }
+            if (before == null) {
+                before = probeAfter(run, i);
+            }
+            String after = probeAfter(run, i + 1);
+            if (!after.equals(before)) {
+                complain(step, run.title + ": " + step + " threw, but changed something");
+            }
+            before = after;
         }
     }
 
-    private void expect(String name, String[] arguments, String due) {
-        calls++;
-        String got = board.call(name, arguments);
-        if (!got.equals(due)) {
-            complain(name + "(" + String.join(", ", arguments) + ") answered " + got + ", due is " + due);
+    private static String probeAfter(Run run, int steps) {
+        Calls board = run.newBoard();
+        for (Run.Step step : run.steps.subList(0, steps)) {
+            board.call(step.name(), step.arguments());
         }
+        return Probe.of(board);
     }
 
-    private void expectThrow(String name, String[] arguments, String due) {
-        String before = board.snapshot();
-        expect(name, arguments, "throws." + due);
-        if (!board.snapshot().equals(before)) {
-            complain(name + " threw, but changed something");
-        }
+    private void complain(Run.Step step, String text) {
+        complain(step.place() + ": " + text);
     }
 
     private void complain(String text) {
         wrong++;
-        System.out.println(place + ": " + text);
+        System.out.println(text);
     }
 }
